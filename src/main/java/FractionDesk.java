@@ -405,7 +405,7 @@ public final class FractionDesk {
             return (int) digit;
         }
 
-        /** Answers whether too much was taken. */
+        /** Answers whether too much was taken; the limb above is used up. */
         boolean takeAway(int digit, int at) {
             long carry = 0;
             for (int i = 0; i < scaled.size; i++) {
@@ -414,9 +414,7 @@ public final class FractionDesk {
                 rest.limbs[at + i] = difference & LIMB_MASK;
                 carry = (carry >>> LIMB_BITS) + (difference >>> LIMB_BITS);
             }
-            int difference = rest.limbs[at + scaled.size] - (int) carry;
-            rest.limbs[at + scaled.size] = difference & LIMB_MASK;
-            return difference < 0;
+            return rest.limbs[at + scaled.size] < carry;
         }
 
         void giveBack(int at) {
@@ -426,8 +424,6 @@ public final class FractionDesk {
                 rest.limbs[at + i] = sum & LIMB_MASK;
                 carry = sum >>> LIMB_BITS;
             }
-            int top = rest.limbs[at + scaled.size] + carry;
-            rest.limbs[at + scaled.size] = top & LIMB_MASK;
         }
     }
 
@@ -441,7 +437,7 @@ public final class FractionDesk {
         static final int MOST_SHORT_STEPS = 100;
         static final int MOST_STEPS = 10000;
 
-        final Division division;
+        final Division division = new Division();
         /** Not below lesser. */
         Natural greater = new Natural(WIDE_LIMBS);
         Natural lesser = new Natural(WIDE_LIMBS);
@@ -450,10 +446,6 @@ public final class FractionDesk {
         long b;
         long c;
         long d;
-
-        CommonDivisor(Division division) {
-            this.division = division;
-        }
 
         /** The answer holds till the next call. */
         Natural of(Natural one, Natural other) {
@@ -586,8 +578,8 @@ public final class FractionDesk {
     /** Makes new fractions of old ones, in its result; the old ones stay as they are. */
     private static final class Reckoner {
         final Fraction result = new Fraction(WIDE_LIMBS);
-        final Division division = new Division();
-        final CommonDivisor commonDivisor = new CommonDivisor(division);
+        final CommonDivisor commonDivisor = new CommonDivisor();
+        final Division division = commonDivisor.division;
         final Natural common = new Natural(LIMBS);
         final Natural first = new Natural(LIMBS);
         final Natural second = new Natural(LIMBS);
