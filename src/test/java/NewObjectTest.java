@@ -1,34 +1,59 @@
-/** Promise 1. */
+/** Promise 1: a new object. */
 public final class NewObjectTest {
     public static void main(String[] args) {
-        Due.is("NONE", -1, FractionDesk.NONE);
-        FractionDesk desk = new FractionDesk();
-        Due.noCharacter(desk, 0);
-        Due.is("end(1) of an empty tape", false, desk.end(1));
-        Due.is("end(0) of an empty tape", true, desk.end(0));
-        Due.is("read of an empty tape", FractionDesk.NONE, desk.read(0));
-        for (int place = 0; place < 16; place++) {
-            Due.is("bits", 0, desk.bits(place));
-            Due.is("isInteger", true, desk.isInteger(place));
-            Due.is("compare", 0, desk.compare(place, 15 - place));
-            Due.holds("a new place", "0", desk, place);
-        }
-        objectsShareNothing();
+        Due.sentence("All places hold 0", NewObjectTest::placesHoldZero);
+        Due.sentence("the text and the tape are empty: the text", NewObjectTest::textIsEmpty);
+        Due.sentence("the text and the tape are empty: the tape", NewObjectTest::tapeIsEmpty);
+        Due.sentence("A new object: also beside and behind a used one", NewObjectTest::objectsShareNothing);
+        Due.sentence("NONE = -1", () -> Due.is("NONE", -1, FractionDesk.NONE));
         Due.finish();
     }
 
+    private static void placesHoldZero() {
+        Desk desk = new Desk();
+        for (int place = 0; place < 16; place++) {
+            Due.is("bits of place " + place, 0, desk.bits(place));
+            Due.is("isInteger of place " + place, true, desk.isInteger(place));
+            Due.is("place " + place + " compared", 0, desk.compare(place, 15 - place));
+            Due.holds("place " + place, "0", desk, place);
+        }
+        Due.is("place -1", FractionDesk.NONE, desk.bits(-1));
+        Due.is("place 16", FractionDesk.NONE, desk.bits(16));
+    }
+
+    private static void textIsEmpty() {
+        Due.is("textAt(0)", Desk.NO_CHARACTER, new Desk().textAt(0));
+        Due.is("textAt(-1)", Desk.NO_CHARACTER, new Desk().textAt(-1));
+        Due.is("the text", "", new Desk().text());
+    }
+
+    private static void tapeIsEmpty() {
+        Due.is("end(1)", false, new Desk().end(1));
+        Due.is("end(0)", true, new Desk().end(0));
+        Due.refuses("read", new Desk(), desk -> desk.read(0));
+        Desk desk = new Desk();
+        Due.is("feed", true, desk.feed(0x31323334, 0, 0, 0, 0));
+        Due.is("end(21) after a feed", false, desk.end(21));
+        Due.is("end(4) after a feed", true, desk.end(4));
+        Due.is("read after a feed", 0, desk.read(0));
+        Due.holds("what was fed first", "1234", desk, 0);
+    }
+
     private static void objectsShareNothing() {
-        FractionDesk used = new FractionDesk();
         FractionDesk other = new FractionDesk();
-        Due.put(used, 3, "-22/7");
-        used.write(3, 10);
-        used.feed(1, 2, 3, 4, 5);
-        Due.noCharacter(other, 0);
-        Due.is("the other tape", false, other.end(1));
-        Due.holds("the other place", "0", other, 3);
-        FractionDesk later = new FractionDesk();
-        Due.noCharacter(later, 0);
-        Due.is("a later tape", false, later.end(1));
-        Due.holds("a later place", "0", later, 3);
+        Desk used = Desk.busy();
+        String state = used.state();
+        for (int place = 0; place < 16; place++) {
+            Due.is("bits of another object", 0, other.bits(place));
+            Due.is("isInteger of another object", true, other.isInteger(place));
+        }
+        Due.is("the tape of another object", false, other.end(1));
+        Due.is("the text of a later object", "", new Desk().text());
+        Due.is("the tape of a later object", 0, new Desk().tapeLength());
+        Due.holds("a place of a later object", "0", new Desk(), 5);
+        other.set(5, 9);
+        other.feed(1, 2, 3, 4, 5);
+        other.write(5, 10);
+        Due.is("the used object", state, used.state());
     }
 }

@@ -1,22 +1,40 @@
 import java.math.BigInteger;
 
-/** Promise 6. */
+/** Promise 6: reckon, what it answers when the place then holds the number. */
 public final class ReckonTest {
-    private static final BigInteger LIMIT = BigInteger.ONE.shiftLeft(2048);
-    private static final String GREATEST = LIMIT.subtract(BigInteger.ONE).toString();
-    private static final String HALF = LIMIT.shiftRight(1).toString();
+    private static final String GREATEST = Desk.GREATEST;
+    private static final String HALF = Desk.HALF;
 
     public static void main(String[] args) {
-        sums();
-        products();
-        quotients();
-        wholeQuotients();
-        commonDivisors();
-        powers();
-        choices();
-        refusals();
-        samePlaces();
+        Due.sentence("0 sum", ReckonTest::sums);
+        Due.sentence("1 difference", ReckonTest::differences);
+        Due.sentence("2 product", ReckonTest::products);
+        Due.sentence("3 quotient", ReckonTest::quotients);
+        Due.sentence("4 the quotient of integers downwards", () -> wholeQuotients(4, 2));
+        Due.sentence("5 the rest of that (of b's sign, or 0)", () -> wholeQuotients(5, 3));
+        Due.sentence("4, 5: the greatest integers", ReckonTest::greatestWholeQuotients);
+        Due.sentence("6 their greatest common divisor (of integers; not below 0)", ReckonTest::commonDivisors);
+        Due.sentence("6: by the longest way", ReckonTest::longestCommonDivisor);
+        Due.sentence("7 a to the power b", ReckonTest::powers);
+        Due.sentence("7: b 0; 0 to the power 0 is 1", ReckonTest::powersOfZero);
+        Due.sentence("7: b 10000", ReckonTest::greatestPowers);
+        Due.sentence("8 the less", ReckonTest::less);
+        Due.sentence("9 the greater one", ReckonTest::greater);
+        Due.sentence("A place holds a with b: the place may be a, or b, or both", ReckonTest::samePlaces);
+        Due.sentence("A place: no other one, nor text, nor tape", ReckonTest::onlyThePlace);
         Due.finish();
+    }
+
+    private static void gives(String a, String b, int operation, String due) {
+        Desk desk = new Desk();
+        desk.put(0, "-11/13");
+        desk.put(15, a);
+        desk.put(7, b);
+        String call = a + " with " + b + ", operation " + operation;
+        Due.is(call, 0, desk.reckon(0, 15, 7, operation));
+        Due.holds(call, due, desk, 0);
+        Due.holds("a of " + call, a, desk, 15);
+        Due.holds("b of " + call, b, desk, 7);
     }
 
     private static void sums() {
@@ -27,22 +45,23 @@ public final class ReckonTest {
         gives("5", "-7", 0, "-2");
         gives("2147483647", "1", 0, "2147483648");
         gives("4611686018427387903", "1", 0, "4611686018427387904");
+        gives("9223372036854775807", "9223372036854775807", 0, "18446744073709551614");
+        gives(GREATEST, "0", 0, GREATEST);
+        gives(GREATEST, "-1", 0, Desk.LIMIT.subtract(BigInteger.TWO).toString());
+        gives("-" + HALF, HALF, 0, "0");
+        // On the way both terms are above the limit, and the sum is not.
+        gives(HALF + "/" + GREATEST, Desk.LIMIT.shiftRight(1).subtract(BigInteger.ONE) + "/" + GREATEST, 0, "1");
+    }
+
+    private static void differences() {
         gives("1/2", "1/2", 1, "0");
         gives("0", "1/2", 1, "-1/2");
         gives("1/6", "-1/3", 1, "1/2");
         gives("-5", "-7", 1, "2");
         gives("0", "0", 1, "0");
-        gives(GREATEST, "0", 0, GREATEST);
-        gives(GREATEST, "-1", 0, LIMIT.subtract(BigInteger.TWO).toString());
-        answers(GREATEST, "1", 0, -3);
-        answers("-" + GREATEST, "1", 1, -3);
-        answers(GREATEST, "1/2", 0, -3);
-        answers(HALF, HALF, 0, -3);
-        gives("-" + HALF, HALF, 0, "0");
-        // On the way both terms are above the limit, and the sum is not.
+        gives("-9223372036854775808", "9223372036854775808", 1, "-18446744073709551616");
         gives("1/" + GREATEST, "1/" + GREATEST, 1, "0");
-        gives(HALF + "/" + GREATEST, LIMIT.shiftRight(1).subtract(BigInteger.ONE) + "/" + GREATEST, 0, "1");
-        answers("1/" + GREATEST, "1/2", 0, -3);
+        gives("0", GREATEST, 1, "-" + GREATEST);
     }
 
     private static void products() {
@@ -51,12 +70,10 @@ public final class ReckonTest {
         gives("-2/3", "-1/5", 2, "2/15");
         gives("0", "-1/5", 2, "0");
         gives("-1/5", "0", 2, "0");
+        gives("4294967296", "-4294967296", 2, "-18446744073709551616");
         gives(HALF, "3/" + HALF, 2, "3");
         gives(GREATEST + "/2", "2/" + GREATEST, 2, "1");
         gives(HALF, "-1", 2, "-" + HALF);
-        answers(HALF, "2", 2, -3);
-        answers("1/" + HALF, "1/2", 2, -3);
-        answers(GREATEST, GREATEST, 2, -3);
         gives(BigInteger.ONE.shiftLeft(1024).toString(), BigInteger.ONE.shiftLeft(1023).toString(), 2, HALF);
     }
 
@@ -68,35 +85,35 @@ public final class ReckonTest {
         gives("2/3", "4/9", 3, "3/2");
         gives("0", "-4/9", 3, "0");
         gives(GREATEST, GREATEST, 3, "1");
+        gives(GREATEST, "-" + HALF, 3, "-" + GREATEST + "/" + HALF);
         gives("1/" + GREATEST, "1/" + GREATEST, 3, "1");
-        answers(HALF, "1/2", 3, -3);
-        answers("1/2", HALF, 3, -3);
-        answers("1", "0", 3, -2);
-        answers("0", "0", 3, -2);
-        answers("1/2", "0", 3, -2);
+        gives("1", "-1/" + GREATEST, 3, "-" + GREATEST);
     }
 
-    private static void wholeQuotients() {
+    private static void wholeQuotients(int operation, int column) {
         String[][] rows = {{"7", "2", "3", "1"}, {"-7", "2", "-4", "1"}, {"7", "-2", "-4", "-1"},
             {"-7", "-2", "3", "-1"}, {"6", "2", "3", "0"}, {"-6", "2", "-3", "0"}, {"6", "-2", "-3", "0"},
             {"-6", "-2", "3", "0"}, {"0", "5", "0", "0"}, {"0", "-5", "0", "0"}, {"1", "5", "0", "1"},
             {"-1", "5", "-1", "4"}, {"1", "-5", "-1", "-4"}, {"-1", "-5", "0", "-1"},
+            {"-9223372036854775808", "-1", "9223372036854775808", "0"},
             {"4611686018427387904", "2147483648", "2147483648", "0"},
             {"-4611686018427387904", "2147483647", "-2147483650", "2147483646"}};
         for (String[] row : rows) {
-            gives(row[0], row[1], 4, row[2]);
-            gives(row[0], row[1], 5, row[3]);
+            gives(row[0], row[1], operation, row[column]);
         }
+    }
+
+    private static void greatestWholeQuotients() {
         gives("-" + GREATEST, "1", 4, "-" + GREATEST);
+        gives("-" + GREATEST, "1", 5, "0");
+        gives("-" + GREATEST, "-1", 4, GREATEST);
+        gives("-" + GREATEST, "2", 4, "-" + HALF);
+        gives("-" + GREATEST, "2", 5, "1");
         gives("-1", GREATEST, 4, "-1");
-        gives("-1", GREATEST, 5, LIMIT.subtract(BigInteger.TWO).toString());
-        for (int operation = 4; operation <= 5; operation++) {
-            answers("1", "0", operation, -2);
-            answers("0", "0", operation, -2);
-            answers("1/2", "1", operation, FractionDesk.NONE);
-            answers("1", "1/2", operation, FractionDesk.NONE);
-            answers("1/2", "0", operation, FractionDesk.NONE);
-        }
+        gives("-1", GREATEST, 5, Desk.LIMIT.subtract(BigInteger.TWO).toString());
+        gives("1", "-" + GREATEST, 5, Desk.LIMIT.subtract(BigInteger.TWO).negate().toString());
+        gives(GREATEST, GREATEST, 4, "1");
+        gives(GREATEST, HALF, 5, Desk.LIMIT.shiftRight(1).subtract(BigInteger.ONE).toString());
     }
 
     private static void commonDivisors() {
@@ -107,12 +124,15 @@ public final class ReckonTest {
         gives("0", "0", 6, "0");
         gives("0", "-5", 6, "5");
         gives("-5", "0", 6, "5");
+        gives("-1", "-1", 6, "1");
         gives("17", "5", 6, "1");
-        gives(GREATEST, GREATEST, 6, GREATEST);
+        gives("0", "-" + GREATEST, 6, GREATEST);
+        gives("-" + GREATEST, GREATEST, 6, GREATEST);
         gives(GREATEST, HALF, 6, "1");
-        answers("1/2", "1", 6, FractionDesk.NONE);
-        answers("1", "1/2", 6, FractionDesk.NONE);
-        // The longest way for Euclid: two neighbours of Fibonacci's row, and a multiple of them.
+    }
+
+    /** Two neighbours of Fibonacci's row, and a multiple of them. */
+    private static void longestCommonDivisor() {
         BigInteger low = BigInteger.ONE;
         BigInteger high = BigInteger.ONE;
         while (high.bitLength() < 2030) {
@@ -131,103 +151,83 @@ public final class ReckonTest {
         gives("-2", "4", 7, "16");
         gives("-2/3", "5", 7, "-32/243");
         gives("5/7", "1", 7, "5/7");
-        gives("5/7", "0", 7, "1");
+        gives("2", "2047", 7, HALF);
+        gives("-2", "2047", 7, "-" + HALF);
+        gives("1/2", "2047", 7, "1/" + HALF);
+        gives("3", "1292", 7, BigInteger.valueOf(3).pow(1292).toString());
+        gives(GREATEST, "1", 7, GREATEST);
+    }
+
+    private static void powersOfZero() {
         gives("0", "0", 7, "1");
+        gives("5/7", "0", 7, "1");
+        gives("-5", "0", 7, "1");
+        gives("-" + GREATEST, "0", 7, "1");
         gives("0", "1", 7, "0");
+        gives("0", "2", 7, "0");
+    }
+
+    private static void greatestPowers() {
         gives("0", "10000", 7, "0");
         gives("1", "10000", 7, "1");
         gives("-1", "10000", 7, "1");
         gives("-1", "9999", 7, "-1");
-        gives("2", "2047", 7, HALF);
-        gives("1/2", "2047", 7, "1/" + HALF);
-        answers("2", "2048", 7, -3);
-        answers("1/2", "2048", 7, -3);
-        answers("-3/2", "10000", 7, -3);
-        gives("3", "1292", 7, BigInteger.valueOf(3).pow(1292).toString());
-        answers("3", "1293", 7, -3);
-        answers("1", "10001", 7, FractionDesk.NONE);
-        answers("1", "-1", 7, FractionDesk.NONE);
-        answers("0", "-1", 7, FractionDesk.NONE);
-        answers("1", "1/2", 7, FractionDesk.NONE);
-        answers("1", "4294967296", 7, FractionDesk.NONE);
-        answers("1", "2147483648", 7, FractionDesk.NONE);
-        answers("1", GREATEST, 7, FractionDesk.NONE);
     }
 
-    private static void choices() {
+    private static void less() {
         gives("1/2", "1/3", 8, "1/3");
-        gives("1/2", "1/3", 9, "1/2");
+        gives("1/3", "1/2", 8, "1/3");
         gives("-1/2", "1/3", 8, "-1/2");
-        gives("-1/2", "1/3", 9, "1/3");
         gives("-1/2", "-1/3", 8, "-1/2");
-        gives("-1/2", "-1/3", 9, "-1/3");
         gives("0", "-5", 8, "-5");
-        gives("0", "-5", 9, "0");
         gives("4", "4", 8, "4");
-        gives("4", "4", 9, "4");
+        gives("-" + GREATEST, GREATEST, 8, "-" + GREATEST);
     }
 
-    private static void refusals() {
-        for (int operation : new int[] {-1, 10, Integer.MIN_VALUE, Integer.MAX_VALUE}) {
-            answers("1", "2", operation, FractionDesk.NONE);
-            answers("1/2", "0", operation, FractionDesk.NONE);
-        }
-        FractionDesk desk = new FractionDesk();
-        for (int place : new int[] {-1, 16, Integer.MIN_VALUE, Integer.MAX_VALUE}) {
-            for (int operation = 0; operation < 10; operation++) {
-                Due.is("no place", FractionDesk.NONE, desk.reckon(place, 0, 1, operation));
-                Due.is("no a", FractionDesk.NONE, desk.reckon(0, place, 1, operation));
-                Due.is("no b", FractionDesk.NONE, desk.reckon(0, 1, place, operation));
-            }
-        }
-        Due.holds("the place after all", "0", desk, 0);
+    private static void greater() {
+        gives("1/2", "1/3", 9, "1/2");
+        gives("1/3", "1/2", 9, "1/2");
+        gives("-1/2", "1/3", 9, "1/3");
+        gives("-1/2", "-1/3", 9, "-1/3");
+        gives("0", "-5", 9, "0");
+        gives("4", "4", 9, "4");
+        gives("-" + GREATEST, GREATEST, 9, GREATEST);
     }
 
     private static void samePlaces() {
-        FractionDesk desk = new FractionDesk();
-        Due.put(desk, 3, "-3/4");
-        Due.is("doubled", 0, desk.reckon(3, 3, 3, 0));
-        Due.holds("doubled", "-3/2", desk, 3);
-        Due.is("squared", 0, desk.reckon(3, 3, 3, 2));
-        Due.holds("squared", "9/4", desk, 3);
-        Due.is("by itself", 0, desk.reckon(3, 3, 3, 3));
-        Due.holds("by itself", "1", desk, 3);
+        Desk desk = new Desk();
+        desk.put(3, "-3/4");
+        becomes(desk, 3, 3, 3, 0, "-3/2");
+        becomes(desk, 3, 3, 3, 2, "9/4");
+        becomes(desk, 3, 3, 3, 8, "9/4");
+        becomes(desk, 3, 3, 3, 3, "1");
         desk.set(3, 5);
-        Due.is("to the power of itself", 0, desk.reckon(3, 3, 3, 7));
-        Due.holds("to the power of itself", "3125", desk, 3);
+        becomes(desk, 3, 3, 3, 7, "3125");
         desk.set(4, -7);
-        Due.is("over the first", 0, desk.reckon(4, 4, 3, 5));
-        Due.holds("over the first", "3118", desk, 4);
-        Due.is("over the second", 0, desk.reckon(3, 4, 3, 4));
-        Due.holds("over the second", "0", desk, 3);
-        Due.is("without itself", 0, desk.reckon(4, 4, 4, 1));
-        Due.holds("without itself", "0", desk, 4);
+        becomes(desk, 4, 4, 3, 5, "3118");
+        becomes(desk, 3, 4, 3, 4, "0");
+        becomes(desk, 4, 4, 4, 1, "0");
+        desk.set(4, -6);
+        becomes(desk, 4, 4, 4, 6, "6");
+        becomes(desk, 3, 4, 4, 9, "6");
     }
 
-    private static void gives(String a, String b, int operation, String due) {
-        FractionDesk desk = desk(a, b);
-        String call = a + " with " + b + ", operation " + operation;
-        Due.is(call, 0, desk.reckon(0, 15, 7, operation));
-        Due.holds(call, due, desk, 0);
-        Due.holds("a of " + call, a, desk, 15);
-        Due.holds("b of " + call, b, desk, 7);
+    private static void becomes(Desk desk, int place, int a, int b, int operation, String due) {
+        Due.is("reckon, operation " + operation, 0, desk.reckon(place, a, b, operation));
+        Due.holds("the place after operation " + operation, due, desk, place);
     }
 
-    private static void answers(String a, String b, int operation, int due) {
-        FractionDesk desk = desk(a, b);
-        String call = a + " with " + b + ", operation " + operation;
-        Due.is(call, due, desk.reckon(0, 15, 7, operation));
-        Due.holds("the place after " + call, "-11/13", desk, 0);
-        Due.is(call + " onto a", due, desk.reckon(15, 15, 7, operation));
-        Due.holds("a after " + call, a, desk, 15);
-    }
-
-    /** The places already hold least terms, so that they can be asked for as they came. */
-    private static FractionDesk desk(String a, String b) {
-        FractionDesk desk = new FractionDesk();
-        Due.put(desk, 0, "-11/13");
-        Due.put(desk, 15, a);
-        Due.put(desk, 7, b);
-        return desk;
+    private static void onlyThePlace() {
+        for (int operation = 0; operation < 10; operation++) {
+            Desk desk = Desk.busy();
+            Due.is("operation " + operation, 0, desk.reckon(2, 9, 8, operation));
+            for (int other = 0; other < 16; other++) {
+                if (other != 2) {
+                    Due.holds("place " + other, Desk.busy().number(other), desk, other);
+                }
+            }
+            Due.is("the text", "-211/21", desk.text());
+            Due.is("the tape", 6, desk.tapeLength());
+        }
     }
 }

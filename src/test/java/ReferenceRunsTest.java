@@ -1,5 +1,4 @@
 import java.math.BigInteger;
-import java.util.NoSuchElementException;
 import java.util.Random;
 
 /**
@@ -7,12 +6,14 @@ import java.util.Random;
  * reckoner over BigInteger too. Anything that a call throws and is not due ends the test.
  */
 public final class ReferenceRunsTest {
-    private static final int CALLS = 512;
-    private static final BigInteger LIMIT = BigInteger.ONE.shiftLeft(2048);
+    /** What a step, and the look at all places at the end, may need. */
+    private static final int MOST_CALLS_OF_A_STEP = 80;
+    private static final int MOST_CALLS_OF_A_LOOK = 8;
+    private static final BigInteger LIMIT = Desk.LIMIT;
 
     private final Random random;
     private final String run;
-    private final FractionDesk desk = new FractionDesk();
+    private final Desk desk = new Desk();
     private final BigInteger[] n = new BigInteger[16];
     private final BigInteger[] d = new BigInteger[16];
     private String tape = "";
@@ -30,20 +31,23 @@ public final class ReferenceRunsTest {
     }
 
     public static void main(String[] args) {
-        int runs = args.length > 0 ? Integer.parseInt(args[0]) : 300;
+        int runs = args.length > 0 ? Integer.parseInt(args[0]) : 1500;
         for (int seed = 0; seed < runs; seed++) {
-            ReferenceRunsTest test = new ReferenceRunsTest(seed);
-            for (int i = 0; i < CALLS; i++) {
-                test.call();
-            }
-            for (int place = 0; place < 16; place++) {
-                Due.is(test.run + "place " + place, test.textOf(place, 10), Due.text(test.desk, place, 10));
-            }
+            new ReferenceRunsTest(seed).steps();
         }
         Due.finish();
     }
 
-    private void call() {
+    private void steps() {
+        while (desk.callsLeft() >= MOST_CALLS_OF_A_STEP + 16 * MOST_CALLS_OF_A_LOOK) {
+            step();
+        }
+        for (int place = 0; place < 16; place++) {
+            look(place, 2 + random.nextInt(35));
+        }
+    }
+
+    private void step() {
         switch (random.nextInt(16)) {
             case 0: feed(); break;
             case 1: end(); break;
@@ -111,7 +115,7 @@ public final class ReferenceRunsTest {
             int[] fours = new int[5];
             StringBuilder bytes = new StringBuilder();
             for (int i = 0; i < 5; i++) {
-                fours[i] = Due.four(added, from + 4 * i);
+                fours[i] = Desk.four(added, from + 4 * i);
                 for (int moved = 24; moved >= 0; moved -= 8) {
                     bytes.append((char) (fours[i] >> moved & 255));
                 }
@@ -129,7 +133,8 @@ public final class ReferenceRunsTest {
     }
 
     private void feed() {
-        feedText(fractionText());
+        String added = fractionText();
+        feedText(added.substring(0, Math.min(added.length(), 20 * random.nextInt(4) + 1)));
     }
 
     private void end() {
@@ -307,25 +312,34 @@ public final class ReferenceRunsTest {
     private void write() {
         int place = place();
         int radix = random.nextInt(20) == 0 ? random.nextInt() : random.nextInt(37) + 1;
-        if (!isPlace(place) || radix < 2 || radix > 36) {
-            Due.is(run + "write", FractionDesk.NONE, desk.write(place, radix));
+        if (isPlace(place) && radix >= 2 && radix <= 36) {
+            look(place, radix);
         } else {
-            text = textOf(place, radix);
-            Due.is(run + "write", text.length(), desk.write(place, radix));
+            Due.is(run + "write", FractionDesk.NONE, desk.write(place, radix));
+            character(text.length() - 1);
         }
-        Due.is(run + "text", text, Due.shown(desk, text.length()));
+    }
+
+    /** What is wrong low in a row shows in its last character, what is wrong high in its length. */
+    private void look(int place, int radix) {
+        text = textOf(place, radix);
+        Due.is(run + "write of place " + place + " in radix " + radix, text.length(), desk.write(place, radix));
+        int stroke = text.indexOf('/');
+        character(0);
+        character(stroke < 0 ? text.length() / 2 : stroke - 1);
+        character(stroke < 0 ? text.length() / 3 : stroke);
+        character(text.length() - 1);
+        character(text.length());
+        character(random.nextInt(text.length()));
+    }
+
+    private void character(int i) {
+        int due = i >= 0 && i < text.length() ? text.charAt(i) : Desk.NO_CHARACTER;
+        Due.is(run + "textAt(" + i + ")", due, desk.textAt(i));
     }
 
     private void textAt() {
-        int i = random.nextInt(5) == 0 ? random.nextInt() : random.nextInt(text.length() + 3) - 1;
-        int due = i >= 0 && i < text.length() ? text.charAt(i) : -1;
-        int got = -1;
-        try {
-            got = desk.textAt(i);
-        } catch (NoSuchElementException e) {
-            got = -1;
-        }
-        Due.is(run + "textAt", due, got);
+        character(random.nextInt(5) == 0 ? random.nextInt() : random.nextInt(text.length() + 3) - 1);
     }
 
     private void bits() {

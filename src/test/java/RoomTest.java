@@ -25,8 +25,18 @@ public final class RoomTest {
     }
 
     private static void useAll(FractionDesk desk) {
-        Due.put(desk, 0, "-" + "7".repeat(600) + "/" + "5".repeat(601) + "1");
-        Due.put(desk, 1, "9".repeat(600));
+        desk.set(0, -7);
+        desk.set(1, 729);
+        desk.reckon(0, 0, 1, 7);
+        desk.set(1, 3);
+        desk.set(2, 1292);
+        desk.reckon(1, 1, 2, 7);
+        desk.reckon(0, 0, 1, 3);
+        for (int i = 0; i < 71; i++) {
+            desk.feed(0x31323334, 0x35363738, 0x39303132, 0x33343536, 0x37383930);
+        }
+        desk.end(600);
+        desk.read(5);
         for (int operation = 0; operation < 10; operation++) {
             desk.reckon(2, 0, 1, operation);
             desk.reckon(3, 1, 1, operation);
