@@ -14,8 +14,8 @@ final class Desk {
     static final int MOST_TAPE = 1400;
     /** More than any text has, so that a look ends whatever is wrong. */
     static final int MOST_TEXT = 5000;
-    /** What textAt answers here when it throws NoSuchElementException. */
-    static final int NO_CHARACTER = -1;
+    /** What textAt answers here when it throws NoSuchElementException; nothing else is that. */
+    static final int NO_CHARACTER = Integer.MIN_VALUE;
     /** Just outside, what a byte, a short or a doubling wraps to a place, and the farthest. */
     static final int[] NO_PLACES = {-1, 16, 17, -16, 256, 65536, 1 << 28, Integer.MIN_VALUE, Integer.MAX_VALUE};
 
@@ -24,21 +24,35 @@ final class Desk {
     static final String GREATEST = LIMIT.subtract(BigInteger.ONE).toString();
     static final String HALF = LIMIT.shiftRight(1).toString();
 
+    static final String BUSY_TEXT = "-211/21";
+    static final String BUSY_TAPE = "-98/76";
     private static final String[] BUSY_NUMBERS = {"1", "-1", "0", "2", "1/2", "-7/3", GREATEST, "-1/" + GREATEST,
         "3", "-4", "5/6", "77", "-22/7", "2147483648", "-9223372036854775808", "100"};
 
     private final FractionDesk desk = new FractionDesk();
     private final List<ToLongFunction<FractionDesk>> calls = new ArrayList<>();
 
-    /** Every place holds another number; there is a text, -211/21, and a tape, -98/76. */
+    /** Every place holds another number, and there are a text and a tape. */
     static Desk busy() {
         Desk desk = new Desk();
         for (int place = 0; place < BUSY_NUMBERS.length; place++) {
             desk.put(place, BUSY_NUMBERS[place]);
         }
         desk.write(12, 3);
-        desk.append(0, "-98/76");
+        desk.append(0, BUSY_TAPE);
         return desk;
+    }
+
+    /** Of a busy desk only this place may have changed. */
+    void isBusyBut(int place) {
+        for (int other = 0; other < BUSY_NUMBERS.length; other++) {
+            if (other != place) {
+                Due.holds("place " + other, BUSY_NUMBERS[other], this, other);
+            }
+        }
+        Due.is("the text", BUSY_TEXT, text());
+        Due.is("the tape's length", BUSY_TAPE.length(), tapeLength());
+        Due.is("the tape", "-1d/12", tapeNumber());
     }
 
     private long call(ToLongFunction<FractionDesk> call) {
@@ -94,13 +108,15 @@ final class Desk {
     }
 
     int textAt(int i) {
-        return (int) call(desk -> {
-            try {
-                return desk.textAt(i);
-            } catch (NoSuchElementException e) {
-                return NO_CHARACTER;
-            }
-        });
+        return (int) call(desk -> character(desk, i));
+    }
+
+    static int character(FractionDesk desk, int i) {
+        try {
+            return desk.textAt(i);
+        } catch (NoSuchElementException e) {
+            return NO_CHARACTER;
+        }
     }
 
     int bits(int place) {

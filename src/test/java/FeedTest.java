@@ -64,7 +64,7 @@ public final class FeedTest {
 
     /** Neither is a byte of 128 and more taken for another one, nor a byte 0 for an end. */
     private static void bytesBelowZero() {
-        for (int high : new int[] {0xb1000000, 0xff000000, 0x80000000, 0xad000000, 0xffffff31}) {
+        for (int high : new int[] {0xb1313131, 0x31b13131, 0x313131b1, 0xff313131, 0x80313131, 0xad313131, 0xffffff31}) {
             Desk desk = new Desk();
             Due.is("feed", true, desk.feed(high, 0x31313131, 0x31313131, 0x31313131, 0x31313131));
             Due.is("the length", 20, desk.tapeLength());
@@ -122,8 +122,8 @@ public final class FeedTest {
     private static void onlyTheTape() {
         Desk desk = Desk.busy();
         Due.is("feed", true, desk.feed(0x35353535, 0, 0, 0, 0));
-        Due.is("the length", 26, desk.tapeLength());
-        Due.is("end", true, desk.end(6));
-        Due.is("the state", Desk.busy().state(), desk.state());
+        Due.is("the length", Desk.BUSY_TAPE.length() + 20, desk.tapeLength());
+        Due.is("end", true, desk.end(Desk.BUSY_TAPE.length()));
+        desk.isBusyBut(-1);
     }
 }

@@ -40,20 +40,23 @@ public final class NewObjectTest {
     }
 
     private static void objectsShareNothing() {
-        FractionDesk other = new FractionDesk();
-        Desk used = Desk.busy();
-        String state = used.state();
-        for (int place = 0; place < 16; place++) {
-            Due.is("bits of another object", 0, other.bits(place));
-            Due.is("isInteger of another object", true, other.isInteger(place));
+        FractionDesk before = new FractionDesk();
+        FractionDesk used = new FractionDesk();
+        used.set(5, 9);
+        used.write(5, 10);
+        used.feed(1, 2, 3, 4, 5);
+        for (FractionDesk other : new FractionDesk[] {before, new FractionDesk()}) {
+            Due.is("another tape", false, other.end(1));
+            Due.is("another place", 0, other.bits(5));
+            Due.is("another text", Desk.NO_CHARACTER, Desk.character(other, 0));
+            other.set(5, -1);
+            other.write(5, 2);
+            other.feed(0, 0, 0, 0, 0);
+            other.end(10);
         }
-        Due.is("the tape of another object", false, other.end(1));
-        Due.is("the text of a later object", "", new Desk().text());
-        Due.is("the tape of a later object", 0, new Desk().tapeLength());
-        Due.holds("a place of a later object", "0", new Desk(), 5);
-        other.set(5, 9);
-        other.feed(1, 2, 3, 4, 5);
-        other.write(5, 10);
-        Due.is("the used object", state, used.state());
+        Due.is("the used text", '9', Desk.character(used, 0));
+        Due.is("the used text's end", Desk.NO_CHARACTER, Desk.character(used, 1));
+        Due.is("the used tape", true, used.end(20));
+        Due.is("the used place", 4, used.bits(5));
     }
 }

@@ -93,13 +93,7 @@ public final class RoundTest {
         for (int operation = 0; operation < 8; operation++) {
             Desk desk = Desk.busy();
             Due.is("operation " + operation, 0, desk.round(2, 5, operation));
-            for (int other = 0; other < 16; other++) {
-                if (other != 2) {
-                    Due.holds("place " + other, Desk.busy().number(other), desk, other);
-                }
-            }
-            Due.is("the text", "-211/21", desk.text());
-            Due.is("the tape", 6, desk.tapeLength());
+            desk.isBusyBut(2);
         }
     }
 

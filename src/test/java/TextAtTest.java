@@ -17,7 +17,7 @@ public final class TextAtTest {
 
     private static void everyCharacter() {
         Desk desk = Desk.busy();
-        String text = "-211/21";
+        String text = Desk.BUSY_TEXT;
         for (int i = 0; i < text.length(); i++) {
             Due.is("textAt(" + i + ")", text.charAt(i), desk.textAt(i));
         }
