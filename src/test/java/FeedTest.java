@@ -64,7 +64,8 @@ public final class FeedTest {
 
     /** Neither is a byte of 128 and more taken for another one, nor a byte 0 for an end. */
     private static void bytesBelowZero() {
-        for (int high : new int[] {0xb1313131, 0x31b13131, 0x313131b1, 0xff313131, 0x80313131, 0xad313131, 0xffffff31}) {
+        for (int high : new int[] {0xb1313131, 0x31b13131, 0x313131b1, 0xff313131, 0x80313131, 0xad313131,
+            0xffffff31}) {
             Desk desk = new Desk();
             Due.is("feed", true, desk.feed(high, 0x31313131, 0x31313131, 0x31313131, 0x31313131));
             Due.is("the length", 20, desk.tapeLength());

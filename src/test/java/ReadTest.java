@@ -96,7 +96,8 @@ public final class ReadTest {
         reads("1234567890", "1234567890");
         reads("1/1234567890", "1/1234567890");
         // The neighbours of the digits, letters that write uses, and bytes with the highest bit.
-        for (String other : new String[] {":", ".", ";", "a", "A", "z", " ", "\n", "\0", "\u00b0", "\u00b9", "\u00ff"}) {
+        for (String other : new String[] {":", ".", ";", "a", "A", "z", " ", "\n", "\0", "\u00b0", "\u00b9",
+            "\u00ff"}) {
             refuses(other);
             refuses("1" + other);
             refuses(other + "1");

@@ -124,7 +124,8 @@ public final class ReckonRefusalsTest {
     }
 
     private static void noOperation() {
-        for (int operation : new int[] {-1, 10, 11, 16, 256, -256, 65536, 1 << 28, Integer.MIN_VALUE, Integer.MAX_VALUE}) {
+        for (int operation : new int[] {-1, 10, 11, 16, 256, -256, 65536, 1 << 28, Integer.MIN_VALUE,
+            Integer.MAX_VALUE}) {
             answers("1", "2", operation, FractionDesk.NONE);
             answers("1/2", "0", operation, FractionDesk.NONE);
         }
