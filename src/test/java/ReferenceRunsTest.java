@@ -254,7 +254,6 @@ public final class ReferenceRunsTest {
         if ((bits - 1) * exponent >= 2048) {
             return -3;
         }
-        makeWhole(BigInteger.ZERO);
         make(n[a].pow(exponent), d[a].pow(exponent));
         return 0;
     }
