@@ -13,6 +13,8 @@ public final class ReferenceRunsTest {
 
     private final Random random;
     private final String run;
+    /** With few places the calls meet each other's numbers more often. */
+    private final int usedPlaces;
     private final Desk desk = new Desk();
     private final BigInteger[] n = new BigInteger[16];
     private final BigInteger[] d = new BigInteger[16];
@@ -24,6 +26,7 @@ public final class ReferenceRunsTest {
     private ReferenceRunsTest(int seed) {
         random = new Random(seed);
         run = "run " + seed + ": ";
+        usedPlaces = seed % 4 == 0 ? 16 : 4;
         for (int i = 0; i < 16; i++) {
             n[i] = BigInteger.ZERO;
             d[i] = BigInteger.ONE;
@@ -31,7 +34,7 @@ public final class ReferenceRunsTest {
     }
 
     public static void main(String[] args) {
-        int runs = args.length > 0 ? Integer.parseInt(args[0]) : 1500;
+        int runs = args.length > 0 ? Integer.parseInt(args[0]) : 4000;
         for (int seed = 0; seed < runs; seed++) {
             new ReferenceRunsTest(seed).steps();
         }
@@ -48,7 +51,7 @@ public final class ReferenceRunsTest {
     }
 
     private void step() {
-        switch (random.nextInt(16)) {
+        switch (random.nextInt(20)) {
             case 0: feed(); break;
             case 1: end(); break;
             case 2: read(); break;
@@ -60,6 +63,8 @@ public final class ReferenceRunsTest {
             case 8: textAt(); break;
             case 9: bits(); break;
             case 10: isInteger(); break;
+            case 11: case 12: case 13: shortText(); break;
+            case 14: round(); break;
             default: reckon(); break;
         }
     }
@@ -69,16 +74,20 @@ public final class ReferenceRunsTest {
         if (kind == 0) {
             return random.nextInt();
         }
-        return kind == 1 ? -1 : kind == 2 ? 16 : random.nextInt(16);
+        return kind == 1 ? -1 : kind == 2 ? 16 : random.nextInt(usedPlaces);
     }
 
     private static boolean isPlace(int place) {
         return place >= 0 && place < 16;
     }
 
+    private BigInteger small() {
+        return BigInteger.valueOf(random.nextInt(20));
+    }
+
     private BigInteger natural() {
         switch (random.nextInt(8)) {
-            case 0: return BigInteger.valueOf(random.nextInt(20));
+            case 0: return small();
             case 1: return new BigInteger(random.nextInt(100), random);
             case 2: return new BigInteger(2048, random);
             case 3: return BigInteger.ONE.shiftLeft(random.nextInt(2049));
@@ -101,7 +110,7 @@ public final class ReferenceRunsTest {
     private String fractionText() {
         String row = (random.nextBoolean() ? "-" : "") + "0".repeat(random.nextInt(3)) + natural();
         if (random.nextInt(3) > 0) {
-            row = row + "/" + natural();
+            row = row + "/" + (random.nextInt(4) == 0 ? small() : natural());
         }
         if (random.nextInt(10) == 0) {
             int at = random.nextInt(row.length());
@@ -142,7 +151,15 @@ public final class ReferenceRunsTest {
     }
 
     private void wholeText() {
-        String added = fractionText();
+        readText(fractionText());
+    }
+
+    /** Small fractions cost few calls, and are what a half, or a sum that shrinks, needs. */
+    private void shortText() {
+        readText((random.nextBoolean() ? "-" : "") + small() + "/" + small());
+    }
+
+    private void readText(String added) {
         int before = random.nextInt(4) == 0 ? tape.length() : 0;
         endAt(before);
         feedText(added);
@@ -277,6 +294,9 @@ public final class ReferenceRunsTest {
             due = keep(place);
         }
         Due.is(run + "round operation " + operation, due, desk.round(place, a, operation));
+        if (due == 0) {
+            look(place, 2 + random.nextInt(35));
+        }
     }
 
     private void makeRound(BigInteger top, BigInteger bottom, int operation) {
